@@ -36,13 +36,8 @@ public final class ClapValley {
     private static final int REFUSED_SPOTS = 3;
     private static final int REFUSED_KINDS = 4;
 
-    private final byte[] tape;
-    private int tapeLength;
-    private int faultPlace;
-    private final Reader reader;
+    private final Tape tape;
     private final Land[] lands;
-    /** A TEXT is read into it, so that a FAULT leaves the told LAND as it was. */
-    private Land spare;
     private final Book book;
     private final Book kept;
     private boolean hasImage;
@@ -55,22 +50,18 @@ public final class ClapValley {
     private final int[] maybeHeard;
 
     public ClapValley() {
-        tape = new byte[TAPE_BYTES];
-        tapeLength = 0;
-        faultPlace = NONE;
-        reader = new Reader();
+        tape = new Tape();
         lands = new Land[LANDS];
         for (int k = 0; k < LANDS; k++) {
             lands[k] = new Land();
         }
-        spare = new Land();
         book = new Book();
         kept = new Book();
         hasImage = false;
-        scene = new Scene(spare);
+        scene = new Scene();
         stationScenes = new Scene[MOST_STATIONS];
         for (int s = 0; s < MOST_STATIONS; s++) {
-            stationScenes[s] = new Scene(spare);
+            stationScenes[s] = new Scene();
         }
         echoes = new Echoes();
         planner = new Planner();
@@ -82,50 +73,39 @@ public final class ClapValley {
     // ---- the tape and the LANDS
 
     public int feed(int a, int b, int c, int d, int e) {
-        if (tapeLength + FEED_BYTES > TAPE_BYTES) {
+        if (tape.length + FEED_BYTES > TAPE_BYTES) {
             return NONE;
         }
-        appendBytes(a);
-        appendBytes(b);
-        appendBytes(c);
-        appendBytes(d);
-        appendBytes(e);
-        return tapeLength;
-    }
-
-    private void appendBytes(int four) {
-        for (int shift = 24; shift >= 0; shift -= 8) {
-            tape[tapeLength] = (byte) (four >>> shift);
-            tapeLength++;
-        }
+        tape.append(a);
+        tape.append(b);
+        tape.append(c);
+        tape.append(d);
+        tape.append(e);
+        return tape.length;
     }
 
     public int land(int land, int n) throws NoSuchElementException, IllegalArgumentException {
-        needLand(land);
-        if (n < 0 || n > tapeLength) {
+        Land earlier = needLand(land);
+        if (n < 0 || n > tape.length) {
             throw new IllegalArgumentException("the tape has not so many bytes");
         }
-        int found = reader.readInto(spare, tape, n);
-        tapeLength = 0;
-        faultPlace = reader.place;
+        int found = tape.readLand(n);
         if (found != 0) {
             book.refused[REFUSED_TEXTS]++;
             return found;
         }
-        Land told = spare;
-        spare = lands[land];
-        lands[land] = told;
+        lands[land] = tape.exchange(earlier);
         return 0;
     }
 
     public int fault() {
-        return faultPlace;
+        return tape.place;
     }
 
     public int count(int what) throws NoSuchElementException {
         switch (what) {
             case 0:
-                return tapeLength;
+                return tape.length;
             case 1:
                 return book.stationCount;
             case 2:
@@ -166,7 +146,7 @@ public final class ClapValley {
     public int clap(int land, int x, int y, int year, int tone, int i) throws NoSuchElementException {
         Land asked = needClap(land, x, y, year, tone);
         scene.look(asked, x, y, year, tone);
-        echoes.gather(scene, 0);
+        echoes.gather(scene, asked, 0);
         int heard = echoes.orderHeard(asked.hears);
         if (i == NONE) {
             return heard;
@@ -183,7 +163,7 @@ public final class ClapValley {
             throw new NoSuchElementException("no echo has such a number");
         }
         scene.look(asked, x, y, year, tone);
-        echoes.gather(scene, 0);
+        echoes.gather(scene, asked, 0);
         return echoes.strengthOf(echo);
     }
 
@@ -259,7 +239,8 @@ public final class ClapValley {
         if (what < 0 || what > 2) {
             throw new NoSuchElementException("nothing such is told of airs");
         }
-        lookAs(asked, written, written.x, written.y);
+        scene.look(asked, written.x, written.y, written.year, written.tone);
+        echoes.gather(scene, asked, 0);
         int heard = echoes.orderHeard(asked.hears);
         int found = 0;
         int least = NONE;
@@ -281,17 +262,14 @@ public final class ClapValley {
         if (what != 0 && what != 1) {
             throw new NoSuchElementException("nothing such is told of a tick");
         }
-        lookAs(asked, written, written.x, written.y);
+        scene.look(asked, written.x, written.y, written.year, written.tone);
+        echoes.gather(scene, asked, 0);
         return what == 0 ? echoes.howManyAt(tick, asked) : echoes.leastAt(tick, asked);
     }
 
-    private void lookAs(Land asked, Station written, int x, int y) {
-        scene.look(asked, x, y, written.year, written.tone);
-        echoes.gather(scene, 0);
-    }
-
     private boolean fitsAt(Land asked, Station written, int x, int y) {
-        lookAs(asked, written, x, y);
+        scene.look(asked, x, y, written.year, written.tone);
+        echoes.gather(scene, asked, 0);
         return echoes.fit(written, asked);
     }
 
@@ -336,7 +314,7 @@ public final class ClapValley {
     private int firstMisfit(Land asked, int gone, int stations, int doubtful) {
         for (int k = 0; k < stations; k++) {
             int s = doubtful + k < stations ? doubtful + k : doubtful + k - stations;
-            echoes.gather(stationScenes[s], gone);
+            echoes.gather(stationScenes[s], asked, gone);
             if (!echoes.fit(book.picked[s], asked)) {
                 return s;
             }
@@ -356,7 +334,7 @@ public final class ClapValley {
             throw new IllegalArgumentException("no named station of that year");
         }
         planner.prepare(book, air);
-        int answer = planner.search(i);
+        int answer = planner.search(book, i);
         if (i != NONE && answer == NONE) {
             throw new NoSuchElementException("there are fewer plans");
         }
@@ -386,9 +364,10 @@ public final class ClapValley {
         }
         for (int s = 0; s < book.spotCount; s++) {
             for (int k = 0; k < LANDS; k++) {
-                scene.look(this.lands[k], book.spotX[s], book.spotY[s], year, tone);
-                echoes.gather(scene, 0);
-                chooser.keepRow(k, echoes, this.lands[k]);
+                Land maybe = this.lands[k];
+                scene.look(maybe, book.spotX[s], book.spotY[s], year, tone);
+                echoes.gather(scene, maybe, 0);
+                chooser.keepRow(k, echoes, maybe);
             }
             chooser.compareRows(s);
         }
@@ -404,12 +383,12 @@ public final class ClapValley {
         needPlace(hisX, hisY);
         lookAsThief(asked, x, y);
         int heard = echoes.countFirstHeard(asked.hears);
-        echoes.orderForThief(scene, hisX, hisY, heardByThief);
+        echoes.orderForThief(scene, asked, hisX, hisY, heardByThief);
         int found = 0;
         for (int place = 0; place < PLACES; place++) {
             lookAsThief(asked, place % SIDE, place / SIDE);
             if (echoes.countFirstHeard(asked.hears) == heard) {
-                echoes.orderForThief(scene, hisX, hisY, maybeHeard);
+                echoes.orderForThief(scene, asked, hisX, hisY, maybeHeard);
                 found += sameStart(heardByThief, maybeHeard, heard) ? 1 : 0;
             }
         }
@@ -418,7 +397,7 @@ public final class ClapValley {
 
     private void lookAsThief(Land asked, int x, int y) {
         scene.look(asked, x, y, 0, 0);
-        echoes.gather(scene, 0);
+        echoes.gather(scene, asked, 0);
     }
 
     public int word(int land, int x, int y, int tone) throws NoSuchElementException {
@@ -431,7 +410,7 @@ public final class ClapValley {
             int otherY = place / SIDE;
             boolean own = otherX == x && otherY == y;
             if (!own && asked.hidersBetween(x, y, otherX, otherY) == 0
-                    && asked.throughWoods(FULL_STRENGTH, x, y, otherX, otherY, tone, 1) >= asked.hears) {
+                    && asked.strengthAlong(0, x, y, otherX, otherY, tone, 1) >= asked.hears) {
                 found++;
             }
         }
@@ -674,9 +653,9 @@ public final class ClapValley {
             return bits;
         }
 
-        /** What is left of a strength behind the WOODS along a line, each gone through so many times. */
-        private int throughWoods(int strength, int ax, int ay, int bx, int by, int tone, int times) {
-            int left = strength;
+        /** What a LOSS leaves, and the WOODS along a line, each gone through so many times. */
+        private int strengthAlong(int loss, int ax, int ay, int bx, int by, int tone, int times) {
+            int left = FULL_STRENGTH * (100 - loss) / 100;
             for (int w = 0; w < woodCount; w++) {
                 if (woods[w].meets(ax, ay, bx, by)) {
                     for (int k = 0; k < times; k++) {
@@ -688,8 +667,8 @@ public final class ClapValley {
         }
     }
 
-    /** Reads a LAND's TEXT; behind the first FAULT no TOKEN is taken any more. */
-    private static final class Reader {
+    /** The tape, and the reading of a LAND's TEXT from it; behind the first FAULT no TOKEN is taken. */
+    private static final class Tape {
         private static final int A_WORD = 0;
         private static final int A_NUMBER = 1;
         private static final int A_SIGN = 2;
@@ -705,58 +684,69 @@ public final class ClapValley {
         /** More than any NUMBER of a LAND may be. */
         private static final int TOO_LONG = 10000;
 
-        private byte[] text;
+        private final byte[] bytes = new byte[TAPE_BYTES];
         private int length;
+        /** Where the TEXT on the tape ends. */
+        private int limit;
+        /** A TEXT is read into a LAND apart, so that a FAULT leaves the told one as it was. */
         private Land land;
+        private boolean hearsTold;
+        private boolean airTold;
         private int kind;
         private int start;
         private int end;
         private int value;
-        private boolean hearsTold;
-        private boolean airTold;
         private int found;
         private int place;
 
-        private Reader() {
-            text = new byte[0];
+        private Tape() {
             land = new Land();
             place = NONE;
         }
 
-        /** The FAULT, or 0. */
-        private int readInto(Land empty, byte[] bytes, int n) {
-            text = bytes;
-            length = Math.min(n, bytes.length);
-            land = empty;
+        private void append(int four) {
+            for (int shift = 24; shift >= 0 && length < TAPE_BYTES; shift -= 8) {
+                bytes[length] = (byte) (four >>> shift);
+                length++;
+            }
+        }
+
+        /** Gives the LAND that was read, for another one to read into. */
+        private Land exchange(Land earlier) {
+            Land read = land;
+            land = earlier;
+            return read;
+        }
+
+        /** Reads the first n bytes and empties the tape: the FAULT, or 0. */
+        private int readLand(int n) {
+            limit = Math.min(n, length);
+            length = 0;
             land.empty();
-            end = 0;
             hearsTold = false;
             airTold = false;
             found = 0;
             place = NONE;
+            end = 0;
             takeToken();
-            for (int lines = 0; lines <= length && kind != TEXT_END && found == 0; lines++) {
-                readLine();
+            for (int lines = 0; lines <= limit && kind != TEXT_END && found == 0; lines++) {
+                if (isWord("upright")) {
+                    readWall(true);
+                } else if (isWord("level")) {
+                    readWall(false);
+                } else if (isWord("barn")) {
+                    readBarn();
+                } else if (isWord("wood")) {
+                    readWood();
+                } else if (isWord("hears")) {
+                    readHears();
+                } else if (isWord("air")) {
+                    readAir();
+                } else {
+                    refuse(UNFIT);
+                }
             }
             return found;
-        }
-
-        private void readLine() {
-            if (isWord("upright")) {
-                readWall(true);
-            } else if (isWord("level")) {
-                readWall(false);
-            } else if (isWord("barn")) {
-                readBarn();
-            } else if (isWord("wood")) {
-                readWood();
-            } else if (isWord("hears")) {
-                readHears();
-            } else if (isWord("air")) {
-                readAir();
-            } else {
-                refuse(UNFIT);
-            }
         }
 
         private void readWall(boolean upright) {
@@ -767,9 +757,9 @@ public final class ClapValley {
             takeToken();
             Wall wall = land.walls[land.wallCount];
             wall.upright = upright;
-            wall.at = readNumber(0, SIDE - 1);
-            wall.from = readNumber(0, SIDE - 1);
-            wall.to = readNumberFrom(wall.from + 1, 0, SIDE - 1);
+            wall.at = readNumber(0, SIDE - 1, 0);
+            wall.from = readNumber(0, SIDE - 1, 0);
+            wall.to = readNumber(0, SIDE - 1, wall.from + 1);
             wall.loss = readLoss();
             readSign();
             land.wallCount++;
@@ -782,15 +772,15 @@ public final class ClapValley {
             }
             takeToken();
             Barn barn = land.barns[land.barnCount];
-            barn.x = readNumber(0, SIDE - 1);
-            barn.y = readNumber(0, SIDE - 1);
+            barn.x = readNumber(0, SIDE - 1, 0);
+            barn.y = readNumber(0, SIDE - 1, 0);
             barn.loss = readLoss();
             barn.from = 0;
             barn.to = YEARS - 1;
             if (isWord("years")) {
                 takeToken();
-                barn.from = readNumber(0, YEARS - 1);
-                barn.to = readNumberFrom(barn.from, 0, YEARS - 1);
+                barn.from = readNumber(0, YEARS - 1, 0);
+                barn.to = readNumber(0, YEARS - 1, barn.from);
             }
             readSign();
             land.barnCount++;
@@ -803,12 +793,12 @@ public final class ClapValley {
             }
             takeToken();
             Wood wood = land.woods[land.woodCount];
-            wood.lowX = readNumber(0, SIDE - 1);
-            wood.lowY = readNumber(0, SIDE - 1);
-            wood.highX = readNumberFrom(wood.lowX, 0, SIDE - 1);
-            wood.highY = readNumberFrom(wood.lowY, 0, SIDE - 1);
+            wood.lowX = readNumber(0, SIDE - 1, 0);
+            wood.lowY = readNumber(0, SIDE - 1, 0);
+            wood.highX = readNumber(0, SIDE - 1, wood.lowX);
+            wood.highY = readNumber(0, SIDE - 1, wood.lowY);
             for (int tone = 0; tone < TONES; tone++) {
-                wood.takes[tone] = readNumber(0, 100);
+                wood.takes[tone] = readNumber(0, 100, 0);
             }
             readSign();
             land.woodCount++;
@@ -821,7 +811,7 @@ public final class ClapValley {
             }
             hearsTold = true;
             takeToken();
-            land.hears = readNumber(0, FULL_STRENGTH);
+            land.hears = readNumber(0, FULL_STRENGTH, 0);
             readSign();
         }
 
@@ -832,7 +822,7 @@ public final class ClapValley {
             }
             airTold = true;
             takeToken();
-            land.air = readNumber(LEAST_AIR, MOST_AIR);
+            land.air = readNumber(LEAST_AIR, MOST_AIR, LEAST_AIR);
             readSign();
         }
 
@@ -841,15 +831,11 @@ public final class ClapValley {
                 return 0;
             }
             takeToken();
-            return readNumber(0, 100);
+            return readNumber(0, 100, 0);
         }
 
-        private int readNumber(int least, int most) {
-            return readNumberFrom(least, least, most);
-        }
-
-        /** A NUMBER from least to most that may not be below a floor told earlier in the LINE. */
-        private int readNumberFrom(int floor, int least, int most) {
+        /** A NUMBER from least to most that may not be below a floor, told earlier in the LINE. */
+        private int readNumber(int least, int most, int floor) {
             if (found != 0) {
                 return least;
             }
@@ -891,7 +877,7 @@ public final class ClapValley {
                 return false;
             }
             for (int i = 0; i < word.length(); i++) {
-                if (text[start + i] != word.charAt(i)) {
+                if (bytes[start + i] != word.charAt(i)) {
                     return false;
                 }
             }
@@ -900,49 +886,31 @@ public final class ClapValley {
 
         private void takeToken() {
             int at = end;
-            while (at < length && (text[at] == 32 || text[at] == 10)) {
+            while (at < limit && (bytes[at] == 32 || bytes[at] == 10)) {
                 at++;
             }
             start = at;
-            if (at >= length) {
-                kind = TEXT_END;
-                end = length;
-            } else if (isLetter(at)) {
-                takeWord();
-            } else if (isDigit(at)) {
-                takeNumber();
-            } else {
-                kind = text[at] == ';' ? A_SIGN : NO_TOKEN;
-                end = at + 1;
-            }
-        }
-
-        private void takeWord() {
-            int at = start;
-            while (at < length && isLetter(at)) {
-                at++;
-            }
-            kind = A_WORD;
-            end = at;
-        }
-
-        private void takeNumber() {
-            int at = start;
             value = 0;
-            while (at < length && isDigit(at)) {
-                value = at - start < MOST_DIGITS ? value * 10 + text[at] - '0' : TOO_LONG;
+            kind = at < limit ? kindOf(bytes[at]) : TEXT_END;
+            if (kind == A_SIGN || kind == NO_TOKEN) {
                 at++;
             }
-            kind = A_NUMBER;
+            while (at < limit && (kind == A_WORD || kind == A_NUMBER) && kindOf(bytes[at]) == kind) {
+                // The digits count, not what they make: 00005 is too long.
+                value = at - start < MOST_DIGITS ? value * 10 + bytes[at] - '0' : TOO_LONG;
+                at++;
+            }
             end = at;
         }
 
-        private boolean isLetter(int at) {
-            return text[at] >= 'a' && text[at] <= 'z';
-        }
-
-        private boolean isDigit(int at) {
-            return text[at] >= '0' && text[at] <= '9';
+        private static int kindOf(int sign) {
+            if (sign >= 'a' && sign <= 'z') {
+                return A_WORD;
+            }
+            if (sign >= '0' && sign <= '9') {
+                return A_NUMBER;
+            }
+            return sign == ';' ? A_SIGN : NO_TOKEN;
         }
     }
 
@@ -956,7 +924,6 @@ public final class ClapValley {
         private static final int HIGH = 3;
         private static final int SIDES = 4;
 
-        private Land land;
         private int x;
         private int y;
         private int tone;
@@ -966,16 +933,11 @@ public final class ClapValley {
         /** Of each BARN: the square of its distance, 0 if it can't be heard here in that year. */
         private final int[] barnSquares = new int[MOST_BARNS];
         private final int[] hiders = new int[MOST_BARNS];
-        /** NONE until they are asked for: most scenes are left before the WOODS matter. */
+        /** NONE until they are asked for: the WOODS matter only for what isn't hidden or behind. */
         private final int[] wallStrengths = new int[MOST_WALLS];
         private final int[] barnStrengths = new int[MOST_BARNS];
 
-        private Scene(Land anyLand) {
-            land = anyLand;
-        }
-
-        private void look(Land at, int placeX, int placeY, int year, int byTone) {
-            land = at;
+        private void look(Land land, int placeX, int placeY, int year, int byTone) {
             x = placeX;
             y = placeY;
             tone = byTone;
@@ -984,8 +946,11 @@ public final class ClapValley {
                 lookAtWall(land.walls[w], w);
             }
             for (int b = 0; b < land.barnCount; b++) {
+                Barn barn = land.barns[b];
+                boolean there = year >= barn.from && year <= barn.to;
                 barnStrengths[b] = NONE;
-                lookAtBarn(land.barns[b], b, year);
+                barnSquares[b] = there ? distanceSquare(x, y, barn.x, barn.y) : 0;
+                hiders[b] = barnSquares[b] == 0 ? 0 : land.hidersBetween(x, y, barn.x, barn.y);
             }
         }
 
@@ -999,31 +964,20 @@ public final class ClapValley {
             }
         }
 
-        private void lookAtBarn(Barn barn, int b, int year) {
-            boolean there = year >= barn.from && year <= barn.to;
-            barnSquares[b] = there ? distanceSquare(x, y, barn.x, barn.y) : 0;
-            hiders[b] = barnSquares[b] == 0 ? 0 : land.hidersBetween(x, y, barn.x, barn.y);
-        }
-
-        private int wallStrength(int w) {
+        private int wallStrength(Land land, int w) {
             if (wallStrengths[w] == NONE) {
                 Wall wall = land.walls[w];
-                wallStrengths[w] = strengthBack(wall.loss, wall.footX(x), wall.footY(y));
+                wallStrengths[w] = land.strengthAlong(wall.loss, x, y, wall.footX(x), wall.footY(y), tone, 2);
             }
             return wallStrengths[w];
         }
 
-        private int barnStrength(int b) {
+        private int barnStrength(Land land, int b) {
             if (barnStrengths[b] == NONE) {
                 Barn barn = land.barns[b];
-                barnStrengths[b] = strengthBack(barn.loss, barn.x, barn.y);
+                barnStrengths[b] = land.strengthAlong(barn.loss, x, y, barn.x, barn.y, tone, 2);
             }
             return barnStrengths[b];
-        }
-
-        private int strengthBack(int loss, int footX, int footY) {
-            int thrown = FULL_STRENGTH * (100 - loss) / 100;
-            return land.throughWoods(thrown, x, y, footX, footY, tone, 2);
         }
     }
 
@@ -1041,32 +995,32 @@ public final class ClapValley {
         private final int[] roots = new int[MOST_ECHOES];
 
         /** The echoes of a scene without what is gone: BARN k is bit k, WALL k is bit 8 and k. */
-        private void gather(Scene scene, int gone) {
+        private void gather(Scene scene, Land land, int gone) {
             size = 0;
             int goneWalls = gone >>> WALL_BIT;
-            findNearest(scene, goneWalls);
+            findNearest(scene, land.wallCount, goneWalls);
             for (int side = 0; side < Scene.SIDES; side++) {
                 int w = nearest[side];
                 if (w != NONE) {
-                    add(w, square(2 * scene.distances[w]), scene.wallStrength(w));
+                    add(w, square(2 * scene.distances[w]), scene.wallStrength(land, w));
                     for (int earlier = 0; earlier < side; earlier++) {
                         addSecond(scene, earlier, side);
                     }
                 }
             }
-            for (int b = 0; b < scene.land.barnCount; b++) {
+            for (int b = 0; b < land.barnCount; b++) {
                 boolean hidden = (scene.hiders[b] & ~goneWalls) != 0;
                 if (scene.barnSquares[b] != 0 && (gone >>> b & 1) == 0 && !hidden) {
-                    add(BARN_ECHO + b, 4 * scene.barnSquares[b], scene.barnStrength(b));
+                    add(BARN_ECHO + b, 4 * scene.barnSquares[b], scene.barnStrength(land, b));
                 }
             }
         }
 
-        private void findNearest(Scene scene, int goneWalls) {
+        private void findNearest(Scene scene, int wallCount, int goneWalls) {
             for (int side = 0; side < Scene.SIDES; side++) {
                 nearest[side] = NONE;
             }
-            for (int w = 0; w < scene.land.wallCount; w++) {
+            for (int w = 0; w < wallCount; w++) {
                 int side = scene.sides[w];
                 if (side != NONE && (goneWalls >>> w & 1) == 0) {
                     int now = nearest[side];
@@ -1077,6 +1031,7 @@ public final class ClapValley {
             }
         }
 
+        /** Of two sides whose FIRST echoes are added already, so that their strengths are known. */
         private void addSecond(Scene scene, int earlier, int side) {
             int one = nearest[earlier];
             int other = nearest[side];
@@ -1088,7 +1043,7 @@ public final class ClapValley {
             boolean sameSort = side == Scene.RIGHT || earlier == Scene.LOW;
             int way = sameSort ? square(oneWay + otherWay) : square(oneWay) + square(otherWay);
             int number = SECOND_ECHO + 8 * Math.min(one, other) + Math.max(one, other);
-            add(number, way, scene.wallStrength(one) * scene.wallStrength(other) / FULL_STRENGTH);
+            add(number, way, scene.wallStrengths[one] * scene.wallStrengths[other] / FULL_STRENGTH);
         }
 
         private void add(int number, int square, int strength) {
@@ -1189,28 +1144,28 @@ public final class ClapValley {
         }
 
         /** Fills a row with the TICKS at which a THIEF hears the FIRST echoes. */
-        private void orderForThief(Scene scene, int hisX, int hisY, int[] row) {
-            int air = scene.land.air;
-            int straight = byAir(wayRoot(distanceSquare(scene.x, scene.y, hisX, hisY)), air);
+        private void orderForThief(Scene scene, Land land, int hisX, int hisY, int[] row) {
+            int straight = byAir(wayRoot(distanceSquare(scene.x, scene.y, hisX, hisY)), land.air);
             int length = 0;
             for (int e = 0; e < size; e++) {
                 boolean first = numbers[e] < SECOND_ECHO;
-                if (first && strengths[e] >= scene.land.hears && length < row.length) {
-                    insert(row, length, byAir(thiefRoots(scene, numbers[e], hisX, hisY), air) - straight);
+                if (first && strengths[e] >= land.hears && length < row.length) {
+                    int both = thiefRoots(scene, land, numbers[e], hisX, hisY);
+                    insert(row, length, byAir(both, land.air) - straight);
                     length++;
                 }
             }
         }
 
-        private static int thiefRoots(Scene scene, int number, int hisX, int hisY) {
+        private static int thiefRoots(Scene scene, Land land, int number, int hisX, int hisY) {
             int footX;
             int footY;
             if (number >= BARN_ECHO) {
-                Barn barn = scene.land.barns[number - BARN_ECHO];
+                Barn barn = land.barns[number - BARN_ECHO];
                 footX = barn.x;
                 footY = barn.y;
             } else {
-                Wall wall = scene.land.walls[number];
+                Wall wall = land.walls[number];
                 footX = wall.footX(scene.x);
                 footY = wall.footY(scene.y);
             }
@@ -1315,7 +1270,6 @@ public final class ClapValley {
         private static final int MOST_LINES = 3;
         private static final int BASE = LINES + 1;
 
-        private Book book;
         private int air;
         /** The lines that no STATION rules out by itself. */
         private final int[] lines = new int[LINES];
@@ -1327,12 +1281,7 @@ public final class ClapValley {
         private int found;
         private int answer;
 
-        private Planner() {
-            book = new Book();
-        }
-
-        private void prepare(Book told, int byAir) {
-            book = told;
+        private void prepare(Book book, int byAir) {
             air = byAir;
             lineCount = 0;
             for (int s = 0; s < book.pickedCount; s++) {
@@ -1341,14 +1290,14 @@ public final class ClapValley {
                 }
             }
             for (int line = 0; line < LINES; line++) {
-                if (isAllowed(line)) {
+                if (isAllowed(line, book)) {
                     lines[lineCount] = line;
                     lineCount++;
                 }
             }
         }
 
-        private boolean isAllowed(int line) {
+        private boolean isAllowed(int line, Book book) {
             for (int s = 0; s < book.pickedCount; s++) {
                 int tick = tickOf(line, book.picked[s]);
                 if (tick != NONE && !isWritten(tick, book.picked[s])) {
@@ -1374,30 +1323,30 @@ public final class ClapValley {
         }
 
         /** How many plans there are (wanted NONE), or the one that is wanted, NONE without. */
-        private int search(int which) {
+        private int search(Book book, int which) {
             wanted = which;
             found = 0;
             answer = NONE;
-            tryPlan(NONE, NONE, NONE);
+            tryPlan(book, NONE, NONE, NONE);
             for (int a = 0; a < lineCount; a++) {
-                tryPlan(lines[a], NONE, NONE);
+                tryPlan(book, lines[a], NONE, NONE);
             }
             for (int a = 0; a < lineCount; a++) {
                 for (int b = a + 1; b < lineCount; b++) {
-                    tryPlan(lines[a], lines[b], NONE);
+                    tryPlan(book, lines[a], lines[b], NONE);
                 }
             }
             for (int a = 0; a < lineCount; a++) {
                 for (int b = a + 1; b < lineCount; b++) {
                     for (int c = b + 1; c < lineCount; c++) {
-                        tryPlan(lines[a], lines[b], lines[c]);
+                        tryPlan(book, lines[a], lines[b], lines[c]);
                     }
                 }
             }
             return wanted == NONE ? found : answer;
         }
 
-        private void tryPlan(int a, int b, int c) {
+        private void tryPlan(Book book, int a, int b, int c) {
             plan[0] = a;
             plan[1] = b;
             plan[2] = c;
