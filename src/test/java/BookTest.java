@@ -97,6 +97,14 @@ public final class BookTest {
         // By the land's air.
         Check.tell(valley, 0, "upright 10 0 20;upright 2 0 20;air 50;");
         dueFit(valley, true, 6, 5, 0, 0, 32, 16, 16);
+        // An echo just as strong as the land hears belongs to the row.
+        Check.tell(valley, 0, "upright 10 0 20 loss 50;hears 500;");
+        dueFit(valley, true, 6, 5, 0, 0, 8);
+        Check.due("where", 42, valley.where(0, valley.count(1) - 1, -1));
+        Check.due("whose", 1, valley.whose(0, valley.count(1) - 1, 0, 0));
+        Check.due("whose", 0, valley.whose(0, valley.count(1) - 1, 0, 1));
+        Check.tell(valley, 0, "upright 10 0 20 loss 50;hears 501;");
+        dueFit(valley, true, 6, 5, 0, 0);
         // More than twelve echoes are in no book.
         Check.tell(valley, 0, "upright 0 0 40;level 0 0 40;upright 40 0 40;level 40 0 40;barn 1 1;barn 1 2;barn 1 3;");
         Check.due("13 echoes", 13, valley.clap(0, 10, 30, 0, 0, -1));
@@ -235,5 +243,22 @@ public final class BookTest {
         Check.write(valley, 10, 0, 4, 1);
         Check.due("gone of two that agree", 0, valley.gone(0, 3));
         Check.due("gone of the other year", 3, valley.gone(0, 4));
+        fullBook();
+    }
+
+    private static void fullBook() {
+        ClapValley valley = Check.valleyOf("barn 0 4;level 20 0 40;barn 40 40;");
+        for (int s = 0; s < 20; s++) {
+            Check.write(valley, s, 0, 3, 0, 40);
+        }
+        Check.due("gone of 20 stations", 1, valley.gone(0, 3));
+        // The line at y 20, and perhaps the one on which they all lie.
+        Check.due("plans of 20 stations", 2, valley.plans(3, 100, -1));
+        Check.due("plans of 20 stations", 6889 * 62, valley.plans(3, 100, 0));
+        Check.due("plans of 20 stations", 6889 * 42 + 83 * 62, valley.plans(3, 100, 1));
+        Check.due("gone of an empty land", -1, valley.gone(1, 3));
+        valley.tick(19, 40);
+        Check.due("gone of 20 stations, one otherwise", -1, valley.gone(0, 3));
+        Check.due("plans of 20 stations, one otherwise", 0, valley.plans(3, 100, -1));
     }
 }

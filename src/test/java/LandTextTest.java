@@ -67,6 +67,13 @@ public final class LandTextTest {
         dueAbout(valley, 5, 0, 0, 0, 7, 70);
         Check.due("land(5, 0)", 0, valley.land(5, 0));
         dueAbout(valley, 5, 0, 0, 0, 100, 100);
+        // What is on the tape behind n is no part of the text, not even of its last token.
+        Check.feed(valley, "air 1000;");
+        Check.due("land(0, 7) of air 1000", 1, valley.land(0, 7));
+        Check.due("fault() of air 1000", 7, valley.fault());
+        Check.feed(valley, "air 70;air 71;");
+        Check.due("land(0, 7) of two airs", 0, valley.land(0, 7));
+        Check.due("about(0, 4)", 70, valley.about(0, 4));
     }
 
     private static void dueText(String text, int fault, int place) {
@@ -89,6 +96,8 @@ public final class LandTextTest {
         dueGood("upright 5 0 10 loss 100;");
         dueGood("barn 5 6 years 5 5;");
         dueGood("barn 5 6 years 0 99;");
+        dueGood("barn 5 6 years 99 99;");
+        dueGood("wood 40 40 40 40 0 0 0;");
         dueGood("barn 40 40 loss 4 years 5 6;");
         dueGood("wood 5 6 5 6 0 100 3;");
         dueGood("hears 1000;air 50;");
@@ -102,6 +111,8 @@ public final class LandTextTest {
         dueText("x", 1, 0);
         dueText("  airs 70;", 1, 2);
         dueText("ai", 1, 0);
+        dueText("airz 70;", 1, 0);
+        dueText("aair 70;", 1, 0);
         dueText("Air 70;", 1, 0);
         dueText("12345", 1, 0);
         dueText(";", 1, 0);
@@ -144,7 +155,9 @@ public final class LandTextTest {
         dueText("barn 5 6 years 100 5;", 2, 15);
         dueText("barn 5 6 years 5 100;", 2, 17);
         dueText("wood 41 6 5 6 1 2 3;", 2, 5);
+        dueText("wood 5 41 5 6 1 2 3;", 2, 7);
         dueText("wood 5 6 41 6 1 2 3;", 2, 9);
+        dueText("wood 5 6 5 41 1 2 3;", 2, 11);
         dueText("wood 5 6 5 6 101 2 3;", 2, 13);
         dueText("wood 5 6 5 6 1 2 101;", 2, 17);
         dueText("hears 1001;", 2, 6);

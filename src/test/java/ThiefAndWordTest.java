@@ -44,6 +44,8 @@ public final class ThiefAndWordTest {
         // What isn't heard at the place of the clap doesn't come to him; second echoes neither.
         ClapValley valley = Check.valleyOf("upright 10 0 40 loss 95;");
         Check.due("unheard", 1681, valley.knows(0, 4, 5, 10, 5));
+        Check.tell(valley, 0, "upright 10 0 40 loss 95;hears 50;");
+        Check.due("just heard", 40, valley.knows(0, 4, 5, 10, 5));
         Check.tell(valley, 0, "barn 20 20 years 1 99;");
         Check.due("no barn in year 0", 1681, valley.knows(0, 4, 5, 10, 5));
         Check.tell(valley, 0, "upright 10 0 40;wood 0 0 40 40 99 0 0;");
