@@ -72,7 +72,10 @@ final class Check {
         }
     }
 
-    /** All that can be told of a state at once: the counts first, then the fault's place, lands, stations. */
+    /**
+     * All that can be told of a state at once: the counts first, then the fault's place, lands, stations.
+     * It takes many calls, more than the document allows an object in all; the class has no such bound.
+     */
     static List<Integer> state(ClapValley valley) {
         List<Integer> all = new ArrayList<>();
         for (int what = 0; what < 7; what++) {

@@ -31,6 +31,14 @@ public final class FaceTest {
             boolean borrowed = Modifier.isPrivate(method.getModifiers()) && FACE.contains(method.getName() + "(");
             Check.due("private " + method.getName() + " bears a public name", false, borrowed && isWhole(method.getName()));
         }
+        for (Class<?> inner : face.getDeclaredClasses()) {
+            for (Method method : inner.getDeclaredMethods()) {
+                Check.due(inner.getSimpleName() + "." + method.getName() + " bears a public name", false, isWhole(method.getName()));
+            }
+            Check.due(inner.getSimpleName() + " is static", true, Modifier.isStatic(inner.getModifiers()));
+            Check.due(inner.getSimpleName() + " is open", false,
+                    Modifier.isPublic(inner.getModifiers()) || Modifier.isProtected(inner.getModifiers()));
+        }
         int fields = 0;
         for (Field field : face.getDeclaredFields()) {
             fields += Modifier.isPrivate(field.getModifiers()) ? 0 : 1;

@@ -4,6 +4,7 @@ public final class Promise01NewObjectTest {
         emptyLands();
         nothingElse();
         nothingShared();
+        lastCall();
         Check.end();
     }
 
@@ -42,5 +43,21 @@ public final class Promise01NewObjectTest {
         Check.due("restore()", false, other.restore());
         Check.dueAbout(used, 0, 1, 1, 1, 7, 70);
         Check.dueCounts(used, "of the used one", 20, 1, 1, 0, 0, 0, 1);
+    }
+
+    private static void lastCall() {
+        Check.sentence("An object is used for at most 512 calls after it has been made");
+        ClapValley valley = new ClapValley();
+        for (int call = 1; call <= 511; call++) {
+            Check.due("a refused station", -1, valley.station(41, 0, 0, 0));
+        }
+        Check.due("the 512th call, count(4)", 511, valley.count(4));
+        ClapValley other = new ClapValley();
+        for (int call = 1; call <= 255; call++) {
+            other.feed(0x61697220, 0x35303b20, 0x20202020, 0x20202020, call);
+            Check.due("land(0, 7)", 0, other.land(0, 7));
+        }
+        other.image();
+        Check.due("the 512th call, about(0, 4)", 50, other.about(0, 4));
     }
 }

@@ -7,6 +7,7 @@ public final class Promise03LandTest {
         emptyThen();
         noByte();
         inPlaceOfTheEarlier();
+        nothingIsLeft();
         sixLands();
         faultyStays();
         statusCounts();
@@ -76,6 +77,28 @@ public final class Promise03LandTest {
         Check.dueRow(valley, 0, 3, 0, 0, 0, 6, 18);
         Check.due("the first text again", 0, Check.tell(valley, 0, FULL));
         Check.dueAbout(valley, 0, 1, 1, 1, 7, 70);
+    }
+
+    private static void nothingIsLeft() {
+        Check.sentence("LOSS 0 without; always, if it isn't told; 100 at first");
+        // However often others were told in all lands, and faulty ones too, nothing of them is left.
+        ClapValley valley = new ClapValley();
+        for (int round = 0; round < 3; round++) {
+            for (int land = 0; land < 6; land++) {
+                Check.tell(valley, land, "barn 3 3 loss 99 years 5 6;level 9 0 9 loss 99;wood 0 0 40 40 99 99 99;hears 1;air 50;");
+                Check.tell(valley, land, "barn 3 3 loss 98 years 7 8;level 9 0 9 loss 98;wood 0 0 40 40 98 98 98;hears 2;air 51;;");
+            }
+        }
+        for (int land = 0; land < 6; land++) {
+            Check.due("the plain text", 0, Check.tell(valley, land, "barn 3 3;level 9 0 9;"));
+        }
+        for (int land = 0; land < 6; land++) {
+            Check.dueAbout(valley, land, 1, 1, 0, 100, 100);
+            Check.dueRow(valley, land, 3, 0, 0, 0, 6, 18);
+            Check.dueRow(valley, land, 3, 0, 99, 2, 6, 18);
+            Check.due("strength of the wall", 1000, valley.strength(land, 3, 0, 0, 0, 0));
+            Check.due("strength of the barn", 1000, valley.strength(land, 3, 0, 0, 0, 8));
+        }
     }
 
     private static void sixLands() {

@@ -213,6 +213,7 @@ public final class Promise03TextTest {
         dueText("upright 99999999999999999999 0 9;", 2, 8);
         // 4294967301 is 5 and the 32nd power of two.
         dueText("upright 4294967301 0 9;", 2, 8);
+        dueText("upright 000004018520069 0 9;", 2, 8);
         dueText("upright 5 0/9;", 1, 11);
         dueText("upright 5 0:9;", 1, 11);
         dueGood("hears 0999;");

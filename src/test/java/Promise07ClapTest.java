@@ -73,6 +73,9 @@ public final class Promise07ClapTest {
         dueRow("level 10 0 20;level 9 0 20;", 3, 14, 8);
         // Of two on both sides, both: a nearer one on the other side is no matter.
         dueRow("upright 10 0 20;upright 7 0 20;", 8, 3, 2, 4, 6);
+        dueRow("upright 10 0 20;upright 7 0 20;", 9, 3, 2, 4, 6);
+        dueRow("level 10 0 20;level 7 0 20;", 3, 8, 2, 4, 6);
+        dueRow("level 10 0 20;level 7 0 20;", 3, 9, 2, 4, 6);
         // With its foot on it, up to its ends.
         dueRow("upright 10 0 20;upright 7 2 5;", 4, 1, 12);
         dueRow("upright 10 0 20;upright 7 2 5;", 4, 2, 6);
@@ -256,6 +259,10 @@ public final class Promise07ClapTest {
         dueRow("barn 1 1;air 94;", 0, 0, 3);
         dueRow("barn 1 1;air 95;", 0, 0, 2);
         dueRow("barn 1 1;air 50;", 0, 0, 5);
+        // Roots that are nearly one more are cut down too: 5003.998 by 139, 4004.997 by 89, 6489.992 by 118.
+        dueRow("barn 1 25;air 139;", 0, 0, 35);
+        dueRow("barn 20 1;air 89;", 0, 0, 44);
+        dueRow("barn 18 27;air 118;", 0, 0, 54);
         // The longest ways.
         dueRow("barn 40 40;air 50;", 0, 0, 226);
         dueRow("barn 40 40;air 150;", 0, 0, 75);

@@ -13,6 +13,7 @@ public final class Promise16GoneTest {
         nothingNeedBe();
         noSuchStations();
         allStationsOfTheYear();
+        oneAfterTheOther();
         fullBook();
         landStays();
         wrongInputs();
@@ -166,6 +167,33 @@ public final class Promise16GoneTest {
         Check.write(valley, 0, 0, 3, 0, 8, 21);
         Check.write(valley, 10, 0, 3, 1);
         Check.due("gone by tones", 0, valley.gone(1, 3));
+    }
+
+    private static void oneAfterTheOther() {
+        Check.sentence("so that all STATIONS of a year that are named FIT");
+        // Two stations at wall 2, of which one hears it and one doesn't; each wall is heard at its own y alone.
+        String text = "upright 10 0 1;upright 10 5 6;upright 10 10 11;upright 10 15 16;";
+        int[][] stations = {{0, 0, 20}, {1, 10, 18}, {0, 10, -1}, {0, 15, 20}, {0, 5, 20}};
+        for (int[] order : new int[][] {{0, 1, 2, 3, 4}, {1, 2, 3, 4, 0}, {2, 3, 4, 0, 1}, {3, 4, 0, 1, 2}, {4, 0, 1, 2, 3},
+            {4, 3, 2, 1, 0}, {1, 0, 3, 4, 2}, {2, 0, 1, 3, 4}, {0, 3, 2, 4, 1}}) {
+            ClapValley valley = Check.valleyOf(text);
+            for (int s : order) {
+                int station = valley.station(stations[s][0], stations[s][1], 3, 0);
+                if (stations[s][2] >= 0) {
+                    valley.tick(station, stations[s][2]);
+                }
+            }
+            Check.due("gone of two that do not agree, in another order", -1, valley.gone(0, 3));
+            valley.clear();
+            for (int s : order) {
+                int x = s == 1 ? 2 : stations[s][0];
+                int station = valley.station(x, stations[s][1], 3, 0);
+                if (stations[s][2] >= 0 && s != 1) {
+                    valley.tick(station, stations[s][2]);
+                }
+            }
+            Check.due("gone of all that agree, in another order", 1024, valley.gone(0, 3));
+        }
     }
 
     private static void fullBook() {

@@ -2,6 +2,7 @@
 public final class Promise18SpotTest {
     public static void main(String[] args) {
         itsNumber();
+        itsPlace();
         places();
         noneOfEight();
         oneRefusalACall();
@@ -18,6 +19,22 @@ public final class Promise18SpotTest {
         valley.clear();
         Check.due("spot behind clear", 0, valley.spot(0, 0));
         Check.due("the same spot again", 1, valley.spot(0, 0));
+    }
+
+    private static void itsPlace() {
+        Check.sentence("claps at PLACES told (SPOTS 0, 1 .. at most 8)");
+        // Only at the barn's own place it isn't heard, so that nothing tells the lands apart.
+        int[][] spots = {{3, 4}, {4, 3}, {0, 0}, {40, 0}, {0, 40}, {40, 40}, {40, 1}, {1, 40}};
+        for (int barn = 0; barn < 8; barn++) {
+            ClapValley valley = Check.valleyOf("barn " + spots[barn][0] + " " + spots[barn][1] + ";");
+            valley.spot(spots[barn][0], spots[barn][1]);
+            Check.due("next, a spot at the barn", -1, valley.next(3, 0, 0, 1));
+            valley.clear();
+            for (int s = 0; s < 8; s++) {
+                Check.due("spot", s, valley.spot(spots[s][0], spots[s][1]));
+            }
+            Check.due("next's first spot", barn == 0 ? 1 : 0, valley.next(3, 0, 0, 1));
+        }
     }
 
     private static void places() {

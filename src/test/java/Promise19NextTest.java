@@ -7,6 +7,7 @@ public final class Promise19NextTest {
         likeRows();
         leastSpot();
         leastNumber();
+        inAllOrders();
         whateverIsHeard();
         asManyAsThereCanBe();
         yearsAndTones();
@@ -114,6 +115,38 @@ public final class Promise19NextTest {
         valley.spot(0, 1);
         dueNext(valley, 3, 1, 7);
         dueNext(valley, 5, -1, -1);
+    }
+
+    private static void inAllOrders() {
+        Check.sentence("the least number of claps by which, whatever ROW is heard, it is known which");
+        // Three lands, wherever they are told: one spot tells one of them from the others, another spot all of them.
+        String[] texts = {"upright 10 0 1;", "upright 10 20 21;", "upright 12 20 21;"};
+        for (int[] lands : new int[][] {{0, 1, 2}, {2, 0, 1}, {1, 2, 0}, {3, 4, 5}, {5, 3, 4}, {4, 5, 3}, {0, 2, 5}, {5, 0, 2}}) {
+            ClapValley valley = new ClapValley();
+            int bits = 0;
+            for (int k = 0; k < 3; k++) {
+                Check.tell(valley, lands[k], texts[k]);
+                bits |= 1 << lands[k];
+            }
+            valley.spot(0, 0);
+            dueNext(valley, bits, -1, -1);
+            valley.spot(0, 20);
+            dueNext(valley, bits, 1, 1);
+            // The better one first.
+            valley.clear();
+            valley.spot(0, 20);
+            valley.spot(0, 0);
+            dueNext(valley, bits, 1, 0);
+            // Two spots of which none tells all at once; the one first that leaves two behind it.
+            Check.tell(valley, lands[2], "upright 10 20 21;upright 10 30 31;");
+            valley.clear();
+            valley.spot(0, 30);
+            valley.spot(0, 0);
+            dueNext(valley, bits, 2, 0);
+            valley.clear();
+            valley.spot(0, 0);
+            dueNext(valley, bits, -1, -1);
+        }
     }
 
     private static void leastNumber() {

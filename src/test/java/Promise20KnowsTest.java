@@ -13,6 +13,7 @@ public final class Promise20KnowsTest {
         sameOrAnother();
         putInOrder();
         noSecondEchoes();
+        heardSecondsAreNoMatter();
         heardAtTheClap();
         footsOfWalls();
         yearAndTone();
@@ -173,6 +174,37 @@ public final class Promise20KnowsTest {
                 + "barn 10 31;barn 10 32;barn 10 33;barn 10 34;barn 10 35;barn 10 36;");
         Check.due("sixteen echoes", 16, valley.clap(0, 10, 30, 0, 0, -1));
         Check.due("ten first echoes", 1, valley.knows(0, 10, 30, 10, 30));
+    }
+
+    /** Of walls at y 0 and y 40 and a thief at 20, 20. */
+    private static List<Integer> lowAndHighTicks(int x, int y) {
+        int straight = way(x, y, 20, 20) / 100;
+        List<Integer> ticks = new ArrayList<>();
+        if (y != 0) {
+            ticks.add((100 * y + way(x, 0, 20, 20)) / 100 - straight);
+        }
+        if (y != 40) {
+            ticks.add((100 * (40 - y) + way(x, 40, 20, 20)) / 100 - straight);
+        }
+        Collections.sort(ticks);
+        return ticks;
+    }
+
+    private static void heardSecondsAreNoMatter() {
+        Check.sentence("of each FIRST one that is HEARD at the PLACE of the clap");
+        // To the left the second echo is heard, 500, to the right it isn't, 490.
+        ClapValley valley = Check.valleyOf("level 0 0 19;level 0 21 40 loss 30;level 40 0 19 loss 50;level 40 21 40 loss 30;hears 500;");
+        Check.due("echoes to the left", 3, valley.clap(0, 5, 7, 0, 0, -1));
+        Check.due("echoes to the right", 2, valley.clap(0, 35, 7, 0, 0, -1));
+        for (int clapY : new int[] {1, 7, 20, 33}) {
+            int found = 0;
+            for (int place = 0; place < 1681; place++) {
+                int x = place % 41;
+                found += x != 20 && lowAndHighTicks(x, place / 41).equals(lowAndHighTicks(5, clapY)) ? 1 : 0;
+            }
+            Check.due("knows from the left", found, valley.knows(0, 5, clapY, 20, 20));
+            Check.due("knows from the right", found, valley.knows(0, 35, clapY, 20, 20));
+        }
     }
 
     /** Of walls at x 0 and y 0, and a thief in the corner. */
