@@ -8,13 +8,17 @@ import java.util.List;
 
 /** The public face is the document's, and nothing but private members stands beside it. */
 public final class FaceTest {
+    private static final String NONE_SUCH = " throws NoSuchElementException";
+    private static final String EITHER = " throws NoSuchElementException, IllegalArgumentException";
     private static final String FACE = String.join("\n",
-            "about(int,int)int", "airs(int,int,int)int", "clap(int,int,int,int,int,int)int", "clear()void",
-            "count(int)int", "fault()int", "feed(int,int,int,int,int)int", "fits(int,int)boolean",
-            "gone(int,int)int", "image()void", "knows(int,int,int,int,int)int", "land(int,int)int",
-            "next(int,int,int,int)int", "plans(int,int,int)int", "restore()boolean", "spot(int,int)int",
-            "station(int,int,int,int)int", "strength(int,int,int,int,int,int)int", "tick(int,int)int",
-            "told(int,int)int", "where(int,int,int)int", "whose(int,int,int,int)int", "word(int,int,int,int)int");
+            "about(int,int)int" + NONE_SUCH, "airs(int,int,int)int" + NONE_SUCH, "clap(int,int,int,int,int,int)int" + NONE_SUCH,
+            "clear()void", "count(int)int" + NONE_SUCH, "fault()int",
+            "feed(int,int,int,int,int)int", "fits(int,int)boolean" + NONE_SUCH, "gone(int,int)int" + NONE_SUCH,
+            "image()void", "knows(int,int,int,int,int)int" + NONE_SUCH, "land(int,int)int" + EITHER,
+            "next(int,int,int,int)int" + EITHER, "plans(int,int,int)int" + EITHER, "restore()boolean",
+            "spot(int,int)int", "station(int,int,int,int)int", "strength(int,int,int,int,int,int)int" + NONE_SUCH,
+            "tick(int,int)int" + NONE_SUCH, "told(int,int)int" + NONE_SUCH, "where(int,int,int)int" + NONE_SUCH,
+            "whose(int,int,int,int)int" + NONE_SUCH, "word(int,int,int,int)int" + NONE_SUCH);
 
     public static void main(String[] args) {
         Class<?> face = ClapValley.class;
@@ -60,6 +64,11 @@ public final class FaceTest {
         for (Class<?> type : method.getParameterTypes()) {
             types.add(type.getSimpleName());
         }
-        return method.getName() + "(" + String.join(",", types) + ")" + method.getReturnType().getSimpleName();
+        List<String> thrown = new ArrayList<>();
+        for (Class<?> type : method.getExceptionTypes()) {
+            thrown.add(type.getSimpleName());
+        }
+        return method.getName() + "(" + String.join(",", types) + ")" + method.getReturnType().getSimpleName()
+                + (thrown.isEmpty() ? "" : " throws " + String.join(", ", thrown));
     }
 }
